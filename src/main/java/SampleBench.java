@@ -245,7 +245,7 @@ public final class SampleBench {
     }
 
     public int commonKey(int slot) throws IndexOutOfBoundsException, IllegalStateException, NoSuchElementException {
-        Sample sample = neededSample(slot);
+        Sample sample = neededSample(slotAt(slot));
         int best = MOST_KEY;
         int bestTimes = 0;
         for (int k = 0; k < sample.size(); k++) {
@@ -352,18 +352,18 @@ public final class SampleBench {
 
     public int quantile(int slot, int permille)
             throws IndexOutOfBoundsException, IllegalArgumentException, IllegalStateException, NoSuchElementException {
-        slotAt(slot);
+        Summary held = slotAt(slot);
         needRange(isWithin(permille, 0, 1000));
-        Sample sample = neededSample(slot);
+        Sample sample = neededSample(held);
         int index = sample.size() * permille / 1000;
         return sample.sortedValue(Math.min(index, sample.size() - 1));
     }
 
     public double resampled(int slot, int seed, int draws)
             throws IndexOutOfBoundsException, IllegalArgumentException, IllegalStateException, NoSuchElementException {
-        slotAt(slot);
+        Summary held = slotAt(slot);
         needRange(isWithin(draws, 1, MOST_DRAWS));
-        Sample sample = neededSample(slot);
+        Sample sample = neededSample(held);
         int size = Math.max(1, sample.size());
         int drawn = seed;
         double sum = 0;
@@ -514,8 +514,7 @@ public final class SampleBench {
         }
     }
 
-    private Sample neededSample(int slot) {
-        Summary held = slotAt(slot);
+    private Sample neededSample(Summary held) {
         needFilled(held);
         Sample sample = sampleOf(held);
         needItems(sample);

@@ -66,6 +66,7 @@ public final class EstimatesTest {
         Check.same("kind 3 complete", estimates(Benches.eight(3, 12), 0), "6 106 319");
         Check.same("kind 3 just complete", estimates(Benches.eight(3, 6), 0), "6 106 319");
         halves();
+        greatNumbers();
         SampleBench bench = Benches.eight(0, 3);
         for (int kind = 0; kind < 4; kind++) {
             bench.define(1, kind, 3, 1, 0);
@@ -103,6 +104,18 @@ public final class EstimatesTest {
         }
         Check.same("kind 3, -5 / 2", Benches.eight(3, 2).estimate(0, 1), -2);
         Check.same("kind 3, the count for -5 / 2", Benches.eight(3, 2).estimate(0, 0), 5);
+    }
+
+    // With the seed 0, the number 0 has the mix 1 and 287730 the mix 7145; the keys 59 and 43 have 61 and 933.
+    private static void greatNumbers() {
+        String limit = ";287730,1,0,99,5";
+        Check.same("kind 1, a great value", estimates(Benches.read("1/1/0/0;0,1,0,1,999" + limit), 0),
+                "2 29725441605 29755197");
+        Check.same("kind 1, a great value below 0", Benches.read("1/1/0/0;0,1,0,1,-998" + limit).estimate(0, 1),
+                -29695686409L);
+        SampleBench distinct = Benches.read("3/1/-789956601/0;0,43,0,99,1;1,59,0,99,999");
+        Check.same("the mixes of keys", distinct.mix(0, 0) + " " + distinct.mix(0, 1), "933 61");
+        Check.same("kind 3, a great count", estimates(distinct, 0), "2301697 2299395303 227868003");
     }
 
     private static void truth() {
@@ -151,6 +164,7 @@ public final class EstimatesTest {
         Check.same("one draw", bench.resampled(0, 4, 1), -1.0);
         Check.same("seven draws", bench.resampled(0, 4, 7), 29.142857142857142);
         Check.same("1000 draws", bench.resampled(0, -3, 1000), 35.785);
+        Check.same("a sample of one", Benches.eight(0, 1).resampled(0, 4, 1000), 8.0);
         Check.same("kind 1", Benches.eight(1, 12).resampled(0, 4, 7), -12.428571428571429);
         Check.same("kind 2", Benches.eight(2, 1).resampled(0, -3, 1000), -216.975);
         Check.same("kind 3", Benches.eight(3, 3).resampled(0, 4, 7), 570.7142857142857);

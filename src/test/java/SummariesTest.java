@@ -99,6 +99,11 @@ public final class SummariesTest {
         Check.same("the number of items of a full span", bench.summary(1, 4), 40);
         Check.same("its first item", bench.kept(1, 0, 0), 81);
         Check.same("its last item", bench.kept(1, 39, 0), 120);
+        bench.define(2, 0, 2, 1, 1);
+        bench.offer(2, 1, 1, 1, 1);
+        bench.offer(2, 2, 2, 2, 2);
+        bench.offer(2, 3, 3, 3, 3);
+        Check.same("a span of one", Benches.written(bench, 2), "0/2/1/1;123,3,3,3,3");
     }
 
     private static void offerDrawn() {
@@ -318,6 +323,12 @@ public final class SummariesTest {
         bench.define(2, 0, 3, 7, 0);
         bench.offerDrawn(2, 1, 29);
         Check.answers(60, "merge to 60", () -> bench.merge(0, 2));
+        Check.answers(60, "merge of what 60 items hold", () -> bench.merge(0, 2));
+        bench.copy(2, 3);
+        Check.answers(60, "merge of the same 60", () -> bench.merge(2, 3));
+        bench.define(3, 0, 3, 7, 1);
+        bench.merge(0, 3);
+        Check.answers(60, "merge of the last of them", () -> bench.merge(3, 2));
     }
 
     private static void copy() {

@@ -87,6 +87,16 @@ public final class TextsTest {
         Check.same("zeros and -0", Benches.written(
                 Benches.read("-0/0000000012/-007/-00;000,-0,003,0099,-0000000012;01,00,0,01,-0"), 0),
                 "0/12/-7/0;0,0,3,99,-12;1,0,0,1,0");
+        String most = "0/1/0/0";
+        for (int i = 0; i < 10; i++) {
+            most += ";" + i + ",0,0,1,0";
+        }
+        Check.same("eleven items", Benches.read(most + ";10,0,0,1,0").summary(0, 4), 11);
+        SampleBench cut = new SampleBench();
+        Check.same("an item too early at an end", readOf(cut, 0, most + ";1"), -100 - 109);
+        Check.same("an item too early at its end", readOf(cut, 0, most + ";10,0,0,1"), -100 - 116);
+        String items = most.replace("0/1/0/0;", "0/1/0/0;0,0,0,1,0;");
+        Check.same("an item too early at 120", readOf(cut, 0, items + ";1,"), -100 - 120);
         SampleBench bench = Benches.eight(0, 3);
         bench.setQuota(0, 0, 9);
         Check.answers(2, "read in place of a summary", () -> readOf(bench, 0, "1/4/1/0;3,1,1,1,1;5,2,2,2,2"));
