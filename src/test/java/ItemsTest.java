@@ -117,11 +117,7 @@ public final class ItemsTest {
     }
 
     private static String reasons(SampleBench bench) {
-        StringBuilder row = new StringBuilder();
-        for (int i = 0; i < bench.summary(0, 4); i++) {
-            row.append(bench.reason(0, i));
-        }
-        return row.toString();
+        return row(bench, SampleBench::reason).replace(" ", "");
     }
 
     private static void reason() {
@@ -140,14 +136,19 @@ public final class ItemsTest {
         refusesIndices("reason", SampleBench::reason);
     }
 
-    private static String needed(SampleBench bench) {
+    // The answers for all kept items, with none for an exception.
+    private static String row(SampleBench bench, OfItem call) {
         StringBuilder row = new StringBuilder();
         for (int i = 0; i < bench.summary(0, 4); i++) {
             int at = i;
-            Object answer = Check.outcome(() -> bench.needed(0, at));
+            Object answer = Check.outcome(() -> call.answer(bench, 0, at));
             row.append(i == 0 ? "" : " ").append(answer instanceof String ? "none" : answer);
         }
         return row.toString();
+    }
+
+    private static String needed(SampleBench bench) {
+        return row(bench, SampleBench::needed);
     }
 
     private static void needed() {
@@ -172,13 +173,7 @@ public final class ItemsTest {
     }
 
     private static String margins(SampleBench bench) {
-        StringBuilder row = new StringBuilder();
-        for (int i = 0; i < bench.summary(0, 4); i++) {
-            int at = i;
-            Object answer = Check.outcome(() -> bench.margin(0, at));
-            row.append(i == 0 ? "" : " ").append(answer instanceof String ? "none" : answer);
-        }
-        return row.toString();
+        return row(bench, SampleBench::margin);
     }
 
     private static void margin() {
