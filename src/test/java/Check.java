@@ -10,15 +10,25 @@ final class Check {
 
     private static int looked;
     private static int wrong;
+    private static String about = "";
 
     private Check() {
+    }
+
+    /** What the next answers are about, which is told with each wrong one. */
+    static void about(String what) {
+        about = what.isEmpty() ? "" : what + ": ";
+    }
+
+    static int looked() {
+        return looked;
     }
 
     static void same(String what, Object got, Object due) {
         looked++;
         if (!plain(got).equals(plain(due))) {
             wrong++;
-            System.out.println(what + ": answered " + plain(got) + ", due is " + plain(due));
+            System.out.println(about + what + ": answered " + plain(got) + ", due is " + plain(due));
         }
     }
 

@@ -527,7 +527,7 @@ final class Model {
         return matcher.matches() || matcher.hitEnd();
     }
 
-    private static int errorOf(String text) {
+    static int errorOf(String text) {
         for (int length = 1; length <= text.length(); length++) {
             if (!continues(text.substring(0, length))) {
                 return length - 1;
