@@ -47,7 +47,8 @@ final class Benches {
     /** The parts of the kept items, a column for each item. */
     static String kept(SampleBench bench, int slot, int what) {
         StringBuilder row = new StringBuilder();
-        for (int i = 0; i < bench.summary(slot, 4); i++) {
+        int count = bench.summary(slot, 4);
+        for (int i = 0; i < count; i++) {
             row.append(i == 0 ? "" : " ").append(bench.kept(slot, i, what));
         }
         return row.toString();
@@ -55,7 +56,8 @@ final class Benches {
 
     static String sampled(SampleBench bench, int slot, int what) {
         StringBuilder row = new StringBuilder();
-        for (int i = 0; i < bench.summary(slot, 5); i++) {
+        int count = bench.summary(slot, 5);
+        for (int i = 0; i < count; i++) {
             row.append(i == 0 ? "" : " ").append(bench.sampled(slot, i, what));
         }
         return row.toString();

@@ -36,11 +36,23 @@ final class Check {
         same(what, outcome(call), due);
     }
 
-    /** The call throws just this exception by a throw statement, and what can be seen of the bench stays as it is. */
+    /**
+     * The call throws just this exception by a throw statement, and the numbers of kept items stay; Bounds.refused
+     * looks at all of the state, but takes many benches for it.
+     */
     static void refuses(Class<? extends RuntimeException> due, SampleBench bench, String what, Call call) {
-        String before = seen(bench);
+        String before = counts(bench);
         same(what, outcome(call), due.getSimpleName());
-        same("the state after " + what, seen(bench), before);
+        same("the numbers of items after " + what, counts(bench), before);
+    }
+
+    private static String counts(SampleBench bench) {
+        StringBuilder row = new StringBuilder();
+        for (int slot = 0; slot < 4; slot++) {
+            int at = slot;
+            row.append(outcome(() -> bench.summary(at, 4))).append(' ');
+        }
+        return row.toString();
     }
 
     /** The answer as a text, or the name of the exception; one of the machine's own is told with its message. */

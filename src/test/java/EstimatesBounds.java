@@ -329,8 +329,21 @@ final class EstimatesBounds {
         distanceIs(1f - 1f / 3f, new int[] {5}, new int[] {5, 9, 9});
         distanceIs(2f / 3f - 1f / 2f, new int[] {1, 2, 9}, new int[] {1, 9});
         Check.same("a sample and itself", Benches.eight(2, 1).distance(0, 0), 0f);
+        // The sample of the first one is 3 alone, with the value 8.
+        String one = "0/1/7/0;0,0,0,1,9;2,0,0,1,-9;3,0,0,1,8";
+        Check.same("one of three, the same value", twoSamples(one, "0/1/7/0;5,0,0,1,8").distance(0, 1), 0f);
+        Check.same("one of three, a greater value", twoSamples(one, "0/1/7/0;5,0,0,1,9").distance(0, 1), 1f);
+        Check.same("one of three, a lower value", twoSamples(one, "0/1/7/0;5,0,0,1,7").distance(1, 0), 1f);
+        Check.same("three of eight and all", eightAndAll().distance(0, 1), 5f / 8f - 1f / 3f);
         Check.same("not the kept items, but the samples", twoSamples("0/1/7/0;0,0,0,1,8;1,0,0,1,5",
                 "0/1/7/0;2,0,0,1,8;4,0,0,1,1").distance(0, 1), 0f);
+    }
+
+    private static SampleBench eightAndAll() {
+        SampleBench bench = Benches.eight(0, 3);
+        bench.define(1, 0, 12, 7, 0);
+        Benches.offerEight(bench, 1);
+        return bench;
     }
 
     private static void distanceIs(float due, int[] one, int[] other) {

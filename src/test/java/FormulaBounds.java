@@ -370,6 +370,10 @@ final class FormulaBounds {
             Check.feed(none, "0/1/7/0");
             none.read(1);
             Check.answers(8, "the number after a text without items", () -> none.offer(1, 1, 1, 1, 1));
+            Bounds.answers(0, () -> Benches.read("0/1/7/0"), "the first number after a text without items",
+                    b -> b.offer(0, 1, 1, 1, 1));
+            Bounds.answers(1, () -> Benches.read("0/1/7/0;0,1,1,1,1"), "the number after a text with 0",
+                    b -> b.offer(0, 1, 1, 1, 1));
         });
     }
 

@@ -249,6 +249,8 @@ final class GeneralBounds {
             sampleIs("0 4 5 1 2 6 3 7", Bounds.stratified(2, 2, 2, 2));
             sampleIs("0 4 5 1 2 6 3 7", Bounds.stratified(3, 12, 3, 12));
             sampleIs("0 4 5 3 7", Bounds.stratified(2, 1, 0, 12));
+            sampleIs("3 1 2 0", Benches.read("2/1/7/0;0,0,3,1,1;1,0,1,1,1;2,0,2,1,1;3,0,0,1,1"));
+            sampleIs("0 3 1", Benches.read("2/2/7/0;0,0,1,1,1;1,0,3,1,1;3,0,3,1,1"));
         });
         Document.says("Of the kept items with the same key, only that with the lowest number is a candidate.", () -> {
             sampleIs("7 6 4 0 5 2", Benches.eight(3, 12));

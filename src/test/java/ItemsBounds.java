@@ -156,6 +156,9 @@ final class ItemsBounds {
             Check.same("the sample alone counts", Benches.eight(2, 1).commonKey(0), 9);
             Check.same("the least key", Benches.read("0/3/7/0;0,0,0,1,1;1,99,0,1,1").commonKey(0), 0);
             Check.same("the greatest key", Benches.read("0/3/7/0;0,99,0,1,1;1,99,0,1,1;2,0,0,1,1").commonKey(0), 99);
+            // The sample is 3, 0 and 7 with the keys 0, 7 and 7.
+            Check.same("kept items that are not in it", Benches.read("0/3/7/0;0,7,0,1,1;1,0,0,1,1;2,0,0,1,1;3,0,0,1,1;"
+                    + "5,0,0,1,1;7,7,0,1,1").commonKey(0), 7);
             Check.same("once more than a lower one", Benches.read("0/5/7/0;0,7,0,1,1;1,7,0,1,1;2,7,0,1,1;3,6,0,1,1;"
                     + "4,6,0,1,1").commonKey(0), 7);
         });

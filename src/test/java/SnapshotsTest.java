@@ -1,29 +1,35 @@
+import java.util.List;
+import java.util.function.Consumer;
+
 /** Promises 31 to 33: taking changes back, saving and restoring. */
 public final class SnapshotsTest {
-    private static String slots(SampleBench bench) {
-        return Check.seen(bench);
+    private static final List<Consumer<SampleBench>> CHANGES = List.of(
+            bench -> bench.define(0, 2, 3, 7, 0), bench -> bench.offer(0, 1, 1, 1, 1),
+            bench -> bench.offerDrawn(0, 3, 9), bench -> bench.setQuota(0, 1, 1),
+            bench -> bench.allocate(0, 5, true), bench -> bench.copy(0, 1), bench -> bench.merge(1, 0),
+            bench -> bench.drop(1), SnapshotsTest::readItem);
+
+    private static SampleBench afterChanges(int count) {
+        SampleBench bench = new SampleBench();
+        CHANGES.subList(0, count).forEach(change -> change.accept(bench));
+        return bench;
     }
 
     /** Every change, taken back one after the other, with what was seen before each. */
     private static void undo() {
-        SampleBench bench = new SampleBench();
-        Check.refuses(Benches.STATE, bench, "undo without changes", bench::undo);
-        String[] seen = new String[9];
-        Runnable[] changes = {
-            () -> bench.define(0, 2, 3, 7, 0), () -> bench.offer(0, 1, 1, 1, 1), () -> bench.offerDrawn(0, 3, 9),
-            () -> bench.setQuota(0, 1, 1), () -> bench.allocate(0, 5, true), () -> bench.copy(0, 1),
-            () -> bench.merge(1, 0), () -> bench.drop(1), () -> readItem(bench),
-        };
-        for (int i = 0; i < changes.length; i++) {
-            seen[i] = slots(bench);
-            changes[i].run();
+        SampleBench none = new SampleBench();
+        Check.refuses(Benches.STATE, none, "undo without changes", none::undo);
+        for (int left = CHANGES.size(); left >= 0; left--) {
+            SampleBench bench = afterChanges(CHANGES.size());
+            Check.same("the next number after all", bench.offer(0, 1, 1, 1, 1), 501);
+            Check.answers(9, "undo of offer", bench::undo);
+            for (int i = CHANGES.size() - 1; i >= left; i--) {
+                Check.answers(i, "undo of change " + i, bench::undo);
+            }
+            Check.same("the state before change " + left, Check.seen(bench), Check.seen(afterChanges(left)));
         }
-        Check.same("the next number after all", bench.offer(0, 1, 1, 1, 1), 501);
-        Check.answers(9, "undo of offer", bench::undo);
-        for (int i = changes.length - 1; i >= 0; i--) {
-            Check.answers(i, "undo of change " + i, bench::undo);
-            Check.same("the state before change " + i, slots(bench), seen[i]);
-        }
+        SampleBench bench = afterChanges(CHANGES.size());
+        CHANGES.forEach(change -> bench.undo());
         Check.refuses(Benches.STATE, bench, "undo of no more changes", bench::undo);
         bench.define(0, 0, 1, 1, 0);
         Check.same("the next number is as it was", bench.offer(0, 1, 1, 1, 1), 0);
@@ -115,14 +121,14 @@ public final class SnapshotsTest {
         Check.refuses(Benches.STATE, bench, "restore of nothing", bench::restore);
         bench.setQuota(0, 1, 0);
         bench.define(1, 1, 2, 3, 4);
-        String seen = slots(bench);
+        String seen = Check.seen(bench);
         bench.save();
         bench.drop(0);
         bench.offerDrawn(1, 1, 10);
         bench.define(2, 0, 1, 1, 0);
         Check.feed(bench, "0/1");
         Check.answers(2, "restore", bench::restore);
-        Check.same("the slots", slots(bench), seen);
+        Check.same("the slots", Check.seen(bench), seen);
         Check.refuses(Benches.STATE, bench, "undo after restore", bench::undo);
         Check.answers(4, "the buffer stays at restore", () -> bench.feed('/'));
         Check.answers(8, "the next number", () -> bench.offer(1, 1, 1, 1, 1));
@@ -130,7 +136,7 @@ public final class SnapshotsTest {
         Check.refuses(Benches.STATE, bench, "undo of no more", bench::undo);
         Check.answers(8, "the next number again", () -> bench.offer(1, 1, 1, 1, 1));
         Check.answers(2, "restore again", bench::restore);
-        Check.same("the slots again", slots(bench), seen);
+        Check.same("the slots again", Check.seen(bench), seen);
         Check.refuses(Benches.STATE, bench, "undo after restore", bench::undo);
         SampleBench empty = new SampleBench();
         empty.save();

@@ -197,7 +197,11 @@ final class SummariesBounds {
         });
         Document.says("- `start`: the number with which s begins", () -> {
             for (int start : new int[] {Bounds.LEAST, -1, 0, 1, Bounds.MOST}) {
-                Check.same("60 items from " + start, Benches.written(sixtyFrom(start), 0), textFrom(start));
+                SampleBench bench = Bounds.noItems(0);
+                bench.offerDrawn(0, start, 60);
+                for (int what = 1; what < 5; what++) {
+                    Check.same("60 items from " + start, Benches.kept(bench, 0, what), drawnParts(start, what));
+                }
             }
         });
         Document.says("- `count`: the number of items, 0 to 60", () -> {
@@ -240,23 +244,17 @@ final class SummariesBounds {
         Check.same("drawn from " + start, Benches.written(bench, 0), "0/3/7/0;0," + due);
     }
 
-    private static SampleBench sixtyFrom(int start) {
-        SampleBench bench = Bounds.noItems(0);
-        bench.offerDrawn(0, start, 60);
-        return bench;
-    }
-
     // The same in numbers without a sign, of which 32 bits are left each time.
-    private static String textFrom(int start) {
-        StringBuilder text = new StringBuilder("0/3/7/0");
+    private static String drawnParts(int start, int what) {
+        StringBuilder row = new StringBuilder();
         long s = start & 0xFFFFFFFFL;
         for (int i = 0; i < 60; i++) {
             s = (s * 1103515245L + 12345L) % 4294967296L;
             long r = s / 256;
-            text.append(";").append(i).append(",").append(r % 100).append(",").append(r / 100 % 4).append(",");
-            text.append(r / 400 % 99 + 1).append(",").append(r % 1999 - 999);
+            long[] parts = {i, r % 100, r / 100 % 4, r / 400 % 99 + 1, r % 1999 - 999};
+            row.append(i == 0 ? "" : " ").append(parts[what]);
         }
-        return text.toString();
+        return row.toString();
     }
 
     private static void summary() {
@@ -417,6 +415,10 @@ final class SummariesBounds {
         Check.same("one stratum gets all", allocated(strata("2"), 12, false), "0 0 12 0");
         Check.same("quotas that were set are no matter", allocated(Bounds.stratified(12, 0, 12, 1), 4, false),
                 "1 1 1 1");
+        SampleBench again = Benches.eight(2, 5);
+        Check.same("allocated once", allocated(again, 5, true), "1 1 1 2");
+        Check.same("allocated again, by numbers", allocated(again, 5, false), "2 1 1 1");
+        Check.same("allocated again, by weights", allocated(again, 5, true), "1 1 1 2");
         SampleBench heavy = new SampleBench();
         heavy.define(0, 2, 3, 7, 0);
         for (int i = 0; i < 60; i++) {
@@ -556,7 +558,7 @@ final class SummariesBounds {
         Bounds.answers(2, () -> pair(40, 1, 0, 1), "another span", b -> b.merge(0, 1));
         Bounds.refused(Benches.UNSUPPORTED, () -> pair(0, 31, 0, 30), "31 into 30", b -> b.merge(0, 1));
         Bounds.refused(Benches.UNSUPPORTED, () -> pair(0, 1, 0, 60), "one into 60", b -> b.merge(0, 1));
-        Bounds.refused(Benches.UNSUPPORTED, () -> pair(0, 60, 0, 60), "60 into 60", b -> b.merge(0, 1));
+        Bounds.answers("UnsupportedOperationException", () -> pair(0, 60, 0, 60), "60 into 60", b -> b.merge(0, 1));
         Bounds.refused(Benches.UNSUPPORTED, () -> pair(40, 60, 0, 21), "40 of a span into 21", b -> b.merge(0, 1));
         Bounds.answers(60, () -> pair(40, 60, 0, 20), "40 of a span into 20", b -> b.merge(0, 1));
         Bounds.answers(60, () -> pair(0, 0, 0, 60), "none into 60", b -> b.merge(0, 1));

@@ -345,6 +345,11 @@ public final class SummariesTest {
         Check.answers(9, "copy into itself", () -> bench.copy(0, 0));
         Check.same("it is the same", Benches.written(bench, 0), Benches.written(bench, 3));
         Check.answers(9, "undo of it, which is a change", bench::undo);
+        copyRefused();
+    }
+
+    private static void copyRefused() {
+        SampleBench bench = Benches.eight(2, 3);
         Check.refuses(Benches.STATE, bench, "copy from an empty slot", () -> bench.copy(1, 0));
         Check.refuses(Benches.STATE, bench, "copy from an empty slot into itself", () -> bench.copy(1, 1));
         for (int wrong : Benches.WRONG_SLOTS) {

@@ -134,6 +134,12 @@ final class TextsBounds {
             reads(-219, elevenItems(0) + "x");
             reads(-220, elevenItems(0) + ";");
             reads(-220, items(0, 10) + ";10,10,10,10,");
+            // The most numbers that a buffer holds: 59 make eleven items, and 60 none more.
+            reads("IllegalArgumentException", items(0, 10) + ";9,1,1,1,1");
+            reads(-218, items(0, 10) + ";9,1,1,1,1;");
+            reads(-219, items(0, 10) + ";9,1,1,1,1;1");
+            reads(-220, items(0, 10) + ";9,1,1,1,1;1,");
+            reads(-219, items(0, 10) + ";9,1,1,1,1;1;");
         });
         Document.says(NO_SLOT, () -> Bounds.noSuchSlot((b, slot) -> b.read(slot)));
         Document.says("Throws `IllegalArgumentException` if the text is correct, and a number is out of range, for the "

@@ -35,15 +35,13 @@ public final class TextsTest {
             {"9/99/9/99;x", 10}, {"\u0660/1/2/0", 0}, {"0/1/2/0\u00e9", 7}, {"0/1/2/0;1,1,1,1,-;", 17},
             {"0/1/2/:", 6}, {"0/1/2/.", 6},
         };
-        SampleBench bench = Benches.eight(0, 3);
         for (Object[] d : due) {
-            String before = Check.seen(bench);
+            SampleBench bench = Benches.eight(0, 3);
             Check.answers(-100 - (Integer) d[1], "read of " + d[0], () -> readOf(bench, 0, (String) d[0]));
-            Check.same("the state after " + d[0], Check.seen(bench), before);
+            Check.same("the state after " + d[0], Check.seen(bench), Check.seen(Benches.eight(0, 3)));
             Check.answers(1, "the buffer after " + d[0], () -> bench.feed('0'));
-            bench.read(1);
+            Check.answers(8, "errors are no changes", bench::undo);
         }
-        Check.answers(8, "errors are no changes", bench::undo);
     }
 
     private static void readRanges() {
@@ -56,21 +54,19 @@ public final class TextsTest {
             "0/1/2/0;2,1,1,1,1;1,1,1,1,1", "0/1/2/0;1,1,1,1,1;3,1,1,1,1;2,1,1,1,1", "0/1/2/1;1,1,1,1,1;1,1,1,1,1",
             "0/1/2/1;1,1,1,1,1;2,1,1,1,1000", "0/1/2/0;1,1,1,1,1;2,1,1,0,1",
         };
-        SampleBench bench = Benches.eight(0, 3);
         for (String text : wrong) {
-            Check.feed(bench, text);
-            Check.refuses(Benches.ARGUMENT, bench, "read of " + text, () -> bench.read(0));
-            Check.answers(1, "the buffer after " + text, () -> bench.feed('0'));
-            bench.read(1);
+            readRefuses(Benches.ARGUMENT, text);
         }
-        String[] many = {"0/1/2/1;1,1,1,1,1;2,1,1,1,1", "3/1/2/2;1,1,1,1,1;2,1,1,1,1;3,1,1,1,1"};
-        for (String text : many) {
-            Check.feed(bench, text);
-            Check.refuses(Benches.STATE, bench, "read of " + text, () -> bench.read(0));
-            Check.answers(1, "the buffer after " + text, () -> bench.feed('0'));
-            bench.read(1);
-        }
-        Check.answers(8, "refused texts use no numbers", () -> bench.offer(0, 1, 1, 1, 1));
+        readRefuses(Benches.STATE, "0/1/2/1;1,1,1,1,1;2,1,1,1,1");
+        readRefuses(Benches.STATE, "3/1/2/2;1,1,1,1,1;2,1,1,1,1;3,1,1,1,1");
+    }
+
+    private static void readRefuses(Class<? extends RuntimeException> due, String text) {
+        SampleBench bench = Benches.eight(0, 3);
+        Check.feed(bench, text);
+        Check.refuses(due, bench, "read of " + text, () -> bench.read(0));
+        Check.answers(1, "the buffer after " + text, () -> bench.feed('0'));
+        Check.answers(8, "a refused text uses no number", () -> bench.offer(0, 1, 1, 1, 1));
     }
 
     private static void read() {
@@ -146,7 +142,10 @@ public final class TextsTest {
             longest.offer(0, 99, 3, 99, -999);
         }
         Check.answers(18 + 59 * 21 + 20, "the longest text", () -> longest.write(0));
-        String end = Check.textOf(longest).substring(18 + 58 * 21 + 20);
+        StringBuilder end = new StringBuilder();
+        for (int i = 18 + 58 * 21 + 20; i < 18 + 59 * 21 + 20; i++) {
+            end.append(longest.text(i));
+        }
         Check.same("its end", end, ";1000058,99,3,99,-999");
     }
 
