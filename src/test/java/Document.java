@@ -13,6 +13,13 @@ final class Document {
         void run();
     }
 
+    static final String NO_SLOT = "Throws `IndexOutOfBoundsException` if there is no such slot";
+    static final String NO_ITEM = NO_SLOT + ", or its summary does not have such an item";
+    static final String NO_WHAT = "Throws `IllegalArgumentException` if what is out of range";
+    static final String EMPTY = "Throws `IllegalStateException` if the slot is empty";
+    static final String ONE_EMPTY = "Throws `IllegalStateException` if one of the slots is empty";
+    static final String NO_SAMPLE = "Throws `NoSuchElementException` if the sample is empty";
+
     private static final Map<String, List<String>> LEFT = new LinkedHashMap<>();
     private static String section = "";
 

@@ -1,11 +1,5 @@
 /** The boundary cases of the promises 20 to 26: estimates, true numbers, and what two samples have in common. */
 final class EstimatesBounds {
-    private static final String NO_SLOT = "Throws `IndexOutOfBoundsException` if there is no such slot";
-    private static final String EMPTY = "Throws `IllegalStateException` if the slot is empty";
-    private static final String ONE_EMPTY = "Throws `IllegalStateException` if one of the slots is empty";
-    private static final String NO_WHAT = "Throws `IllegalArgumentException` if what is out of range";
-    private static final String NO_SAMPLE = "Throws `NoSuchElementException` if the sample is empty";
-
     private EstimatesBounds() {
     }
 
@@ -28,8 +22,8 @@ final class EstimatesBounds {
             Bounds.answers("IndexOutOfBoundsException", Bounds::rich, "no slot", b -> b.estimateKeys(4, 9, 0, true));
             Bounds.answers(0L, Bounds::rich, "no keys of this kind", b -> b.estimateKeys(0, -5, -1, true));
         });
-        Document.says("Returns an estimated total of a part of the keys: it is found as in estimate, but the number that "
-                + "is totalled is 0 for items whose keys are outside of a range.", () -> {
+        Document.says("Returns an estimated total of a part of the keys: it is found as in estimate, but the number "
+                + "that is totalled is 0 for items whose keys are outside of a range.", () -> {
             keysAre(0, 3, 0, 99, 285, 397);
             keysAre(0, 3, 0, 98, 285, 397);
             keysAre(0, 3, 1, 99, 288, 133);
@@ -69,8 +63,8 @@ final class EstimatesBounds {
             }
             keysAre(0, 3, 9, 9, 21, 107);
         });
-        Document.says(NO_SLOT, () -> Bounds.noSuchSlot((b, slot) -> b.estimateKeys(slot, 0, 99, true)));
-        Document.says(EMPTY, () -> {
+        Document.says(Document.NO_SLOT, () -> Bounds.noSuchSlot((b, slot) -> b.estimateKeys(slot, 0, 99, true)));
+        Document.says(Document.EMPTY, () -> {
             Bounds.emptySlot((b, slot) -> b.estimateKeys(slot, 0, 99, true));
             Bounds.emptySlot((b, slot) -> b.estimateKeys(slot, 9, 0, false));
         });
@@ -92,16 +86,17 @@ final class EstimatesBounds {
             Bounds.refused(Benches.INDEX, Bounds::rich, "no slot, no what", b -> b.estimate(-1, -1));
             Bounds.refused(Benches.ARGUMENT, Bounds::rich, "no what, empty", b -> b.estimate(3, 3));
         });
-        Document.says("- `what`: 0 the estimated count, 1 the estimated total of values, 2 the estimated total of weights",
+        Document.says("- `what`: 0 the estimated count, 1 the estimated total of values, 2 the estimated total of "
+                + "weights",
                 () -> {
             Bounds.answers(6L, () -> Benches.eight(3, 5), "0", b -> b.estimate(0, 0));
             Bounds.answers(119L, () -> Benches.eight(3, 5), "1", b -> b.estimate(0, 1));
             Bounds.answers(347L, () -> Benches.eight(3, 5), "2", b -> b.estimate(0, 2));
         });
-        Document.says(NO_SLOT, () -> Bounds.noSuchSlot((b, slot) -> b.estimate(slot, 0)));
-        Document.says(NO_WHAT, () -> Bounds.outside(Benches.ARGUMENT, Bounds::rich, "what", 0, 2,
+        Document.says(Document.NO_SLOT, () -> Bounds.noSuchSlot((b, slot) -> b.estimate(slot, 0)));
+        Document.says(Document.NO_WHAT, () -> Bounds.outside(Benches.ARGUMENT, Bounds::rich, "what", 0, 2,
                 (b, n) -> b.estimate(0, n)));
-        Document.says(EMPTY, () -> {
+        Document.says(Document.EMPTY, () -> {
             Bounds.emptySlot((b, slot) -> b.estimate(slot, 0));
             Bounds.emptySlot((b, slot) -> b.estimate(slot, 1));
             Bounds.emptySlot((b, slot) -> b.estimate(slot, 2));
@@ -118,8 +113,9 @@ final class EstimatesBounds {
             Bounds.refused(Benches.INDEX, Bounds::rich, "no slot, no what", b -> b.truth(-1, -1));
             Bounds.refused(Benches.ARGUMENT, Bounds::rich, "no what, empty", b -> b.truth(3, 3));
         });
-        Document.says("- `what`: 0 the number of kept items, or for kind 3 that of their different keys; 1 the total of "
-                + "the values of all kept items, or for kind 3 of all candidates; 2 the total of weights likewise", () -> {
+        Document.says("- `what`: 0 the number of kept items, or for kind 3 that of their different keys; 1 the total "
+                + "of the values of all kept items, or for kind 3 of all candidates; 2 the total of weights likewise",
+                () -> {
             for (int kind = 0; kind < 4; kind++) {
                 Check.same("no items", truths(Bounds.noItems(kind)), "0 0 0");
                 Check.same("size 1", truths(Benches.eight(kind, 1)), kind == 3 ? "6 106 319" : "8 64 379");
@@ -128,10 +124,10 @@ final class EstimatesBounds {
             }
             Check.same("quotas of 0", truths(Bounds.stratified(0, 0, 0, 0)), "8 64 379");
         });
-        Document.says(NO_SLOT, () -> Bounds.noSuchSlot((b, slot) -> b.truth(slot, 0)));
-        Document.says(NO_WHAT, () -> Bounds.outside(Benches.ARGUMENT, Bounds::rich, "what", 0, 2,
+        Document.says(Document.NO_SLOT, () -> Bounds.noSuchSlot((b, slot) -> b.truth(slot, 0)));
+        Document.says(Document.NO_WHAT, () -> Bounds.outside(Benches.ARGUMENT, Bounds::rich, "what", 0, 2,
                 (b, n) -> b.truth(0, n)));
-        Document.says(EMPTY, () -> {
+        Document.says(Document.EMPTY, () -> {
             Bounds.emptySlot((b, slot) -> b.truth(slot, 0));
             Bounds.emptySlot((b, slot) -> b.truth(slot, 1));
             Bounds.emptySlot((b, slot) -> b.truth(slot, 2));
@@ -153,15 +149,15 @@ final class EstimatesBounds {
     private static void quantile() {
         Document.section("Promise 23: quantile");
         Document.isPlain("- `slot`: the slot", "Returns the value.");
-        Document.says("`int quantile(int slot, int permille) throws IndexOutOfBoundsException, IllegalArgumentException, "
-                + "IllegalStateException, NoSuchElementException`", () -> {
+        Document.says("`int quantile(int slot, int permille) throws IndexOutOfBoundsException, "
+                + "IllegalArgumentException, IllegalStateException, NoSuchElementException`", () -> {
             Bounds.refused(Benches.INDEX, Bounds::rich, "no slot, no permille", b -> b.quantile(4, 1001));
             Bounds.refused(Benches.ARGUMENT, Bounds::rich, "no permille, empty", b -> b.quantile(3, -1));
             Bounds.refused(Benches.ARGUMENT, Bounds::rich, "no permille, no items", b -> b.quantile(2, 1001));
             Bounds.refused(Benches.STATE, Bounds::rich, "empty", b -> b.quantile(3, 0));
         });
-        Document.says("Returns a quantile of the values of the sample: with the values in ascending order, that with the "
-                + "index s * permille / 1000, rounded down, but at most s - 1.", () -> {
+        Document.says("Returns a quantile of the values of the sample: with the values in ascending order, that with "
+                + "the index s * permille / 1000, rounded down, but at most s - 1.", () -> {
             int[][] ofThree = {{0, -1}, {333, -1}, {334, 8}, {666, 8}, {667, 100}, {999, 100}, {1000, 100}};
             for (int[] d : ofThree) {
                 Check.same("of three, " + d[0], Benches.eight(0, 3).quantile(0, d[0]), d[1]);
@@ -180,11 +176,11 @@ final class EstimatesBounds {
             Bounds.answers(-1, () -> Benches.eight(0, 3), "0", b -> b.quantile(0, 0));
             Bounds.answers(100, () -> Benches.eight(0, 3), "1000", b -> b.quantile(0, 1000));
         });
-        Document.says(NO_SLOT, () -> Bounds.noSuchSlot((b, slot) -> b.quantile(slot, 0)));
+        Document.says(Document.NO_SLOT, () -> Bounds.noSuchSlot((b, slot) -> b.quantile(slot, 0)));
         Document.says("Throws `IllegalArgumentException` if permille is out of range",
                 () -> Bounds.outside(Benches.ARGUMENT, Bounds::rich, "permille", 0, 1000, (b, n) -> b.quantile(0, n)));
-        Document.says(EMPTY, () -> Bounds.emptySlot((b, slot) -> b.quantile(slot, 1000)));
-        Document.says(NO_SAMPLE, () -> emptySample(b -> b.quantile(0, 0)));
+        Document.says(Document.EMPTY, () -> Bounds.emptySlot((b, slot) -> b.quantile(slot, 1000)));
+        Document.says(Document.NO_SAMPLE, () -> emptySample(b -> b.quantile(0, 0)));
     }
 
     private static void emptySample(Bounds.Call call) {
@@ -212,9 +208,9 @@ final class EstimatesBounds {
             Bounds.refused(Benches.ARGUMENT, Bounds::rich, "no draws, no items", b -> b.resampled(2, 1, 1001));
             Bounds.refused(Benches.STATE, Bounds::rich, "empty", b -> b.resampled(3, 1, 1));
         });
-        Document.says("Returns the mean of resampled values: values of the sample are drawn, each time by z becoming z * "
-                + "1103515245 + 12345, with overflow, from the given seed on, as the value of the item of the sample with "
-                + "the index (z >>> 8) % s; their sum, as a double, is divided by their number.", () -> {
+        Document.says("Returns the mean of resampled values: values of the sample are drawn, each time by z becoming z "
+                + "* 1103515245 + 12345, with overflow, from the given seed on, as the value of the item of the sample "
+                + "with the index (z >>> 8) % s; their sum, as a double, is divided by their number.", () -> {
             // With these seeds, z is at first -1, 0, 255 and 256.
             for (int seed : new int[] {230538014, -59267453, -945217506, -1235022973}) {
                 meansAre(seed, 1, 2, 3, 8, 12);
@@ -237,11 +233,11 @@ final class EstimatesBounds {
             Bounds.answers(36.529529529529526, () -> Benches.eight(0, 3), "999 draws", b -> b.resampled(0, 4, 999));
             Bounds.answers(36.492, () -> Benches.eight(0, 3), "1000 draws", b -> b.resampled(0, 4, 1000));
         });
-        Document.says(NO_SLOT, () -> Bounds.noSuchSlot((b, slot) -> b.resampled(slot, 1, 1)));
+        Document.says(Document.NO_SLOT, () -> Bounds.noSuchSlot((b, slot) -> b.resampled(slot, 1, 1)));
         Document.says("Throws `IllegalArgumentException` if the number of draws is out of range",
                 () -> Bounds.outside(Benches.ARGUMENT, Bounds::rich, "draws", 1, 1000, (b, n) -> b.resampled(0, 1, n)));
-        Document.says(EMPTY, () -> Bounds.emptySlot((b, slot) -> b.resampled(slot, 1, 1)));
-        Document.says(NO_SAMPLE, () -> emptySample(b -> b.resampled(0, 1, 1)));
+        Document.says(Document.EMPTY, () -> Bounds.emptySlot((b, slot) -> b.resampled(slot, 1, 1)));
+        Document.says(Document.NO_SAMPLE, () -> emptySample(b -> b.resampled(0, 1, 1)));
     }
 
     // The same in numbers without a sign, of which 32 bits are left each time.
@@ -293,15 +289,16 @@ final class EstimatesBounds {
             Bounds.refused(Benches.STATE, Bounds::rich, "no items, empty", b -> b.distance(2, 3));
             Bounds.refused(Benches.STATE, Bounds::rich, "empty, no items", b -> b.distance(3, 2));
         });
-        Document.says("Returns the distance of the samples of two summaries: the greatest absolute difference, over all "
-                + "values x of both samples, between the shares of the values of both samples that are at most x; a "
-                + "share is a number of values, as a float, divided by the number of items of the sample, as a float.",
+        Document.says("Returns the distance of the samples of two summaries: the greatest absolute difference, over "
+                + "all values x of both samples, between the shares of the values of both samples that are at most x; "
+                + "a share is a number of values, as a float, divided by the number of items of the sample, as a "
+                + "float.",
                 EstimatesBounds::distances);
-        Document.says(NO_SLOT, () -> {
+        Document.says(Document.NO_SLOT, () -> {
             Bounds.noSuchSlot((b, slot) -> b.distance(slot, 0));
             Bounds.noSuchSlot((b, slot) -> b.distance(0, slot));
         });
-        Document.says(ONE_EMPTY, () -> {
+        Document.says(Document.ONE_EMPTY, () -> {
             Bounds.emptySlot((b, slot) -> b.distance(slot, slot));
             Bounds.refused(Benches.STATE, Bounds::rich, "the first one", b -> b.distance(3, 0));
             Bounds.refused(Benches.STATE, Bounds::rich, "the other one", b -> b.distance(0, 3));
@@ -355,7 +352,8 @@ final class EstimatesBounds {
     private static void common() {
         Document.section("Promise 26: common");
         Document.isPlain("- `one`: a slot", "- `other`: a slot", "Returns the number of items.");
-        Document.says("`int common(int one, int other) throws IndexOutOfBoundsException, IllegalStateException`", () -> {
+        Document.says("`int common(int one, int other) throws IndexOutOfBoundsException, "
+                + "IllegalStateException`", () -> {
             Bounds.refused(Benches.INDEX, Bounds::rich, "no slot, empty", b -> b.common(4, 3));
             Bounds.refused(Benches.INDEX, Bounds::rich, "empty, no slot", b -> b.common(3, -1));
             Bounds.answers(0, Bounds::rich, "a sample of none", b -> b.common(2, 2));
@@ -368,16 +366,16 @@ final class EstimatesBounds {
             Check.same("twelve of 60", Bounds.drawn(0, 12, 0, 60).common(0, 0), 12);
             Check.same("the same number, other parts", twoSamples("0/3/7/0;4,0,0,1,8",
                     "3/1/9/1;4,9,3,99,-8").common(0, 1), 1);
-            Check.same("other numbers, the same parts", twoSamples("0/3/7/0;4,0,0,1,8", "0/3/7/0;5,0,0,1,8").common(0, 1),
-                    0);
+            Check.same("other numbers, the same parts", twoSamples("0/3/7/0;4,0,0,1,8",
+                    "0/3/7/0;5,0,0,1,8").common(0, 1), 0);
             Check.same("kept, but not in both samples", twoSamples("0/1/7/0;0,0,0,1,8;1,0,0,1,5",
                     "0/1/7/0;0,0,0,1,8;3,0,0,1,5").common(0, 1), 0);
         });
-        Document.says(NO_SLOT, () -> {
+        Document.says(Document.NO_SLOT, () -> {
             Bounds.noSuchSlot((b, slot) -> b.common(slot, 0));
             Bounds.noSuchSlot((b, slot) -> b.common(0, slot));
         });
-        Document.says(ONE_EMPTY, () -> {
+        Document.says(Document.ONE_EMPTY, () -> {
             Bounds.emptySlot((b, slot) -> b.common(slot, slot));
             Bounds.refused(Benches.STATE, Bounds::rich, "the first one", b -> b.common(3, 0));
             Bounds.refused(Benches.STATE, Bounds::rich, "the other one", b -> b.common(0, 3));

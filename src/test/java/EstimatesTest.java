@@ -11,15 +11,6 @@ public final class EstimatesTest {
         return bench.truth(slot, 0) + " " + bench.truth(slot, 1) + " " + bench.truth(slot, 2);
     }
 
-    private static SampleBench withQuotas(int first, int second, int third, int fourth) {
-        SampleBench bench = Benches.eight(2, 1);
-        bench.setQuota(0, 0, first);
-        bench.setQuota(0, 1, second);
-        bench.setQuota(0, 2, third);
-        bench.setQuota(0, 3, fourth);
-        return bench;
-    }
-
     private static void estimateKeys() {
         // The lowest and the highest key, and what is due for values and weights of the kinds 0 to 3 with the size 3.
         int[][] due = {
@@ -58,9 +49,9 @@ public final class EstimatesTest {
         Check.same("kind 1 complete", estimates(Benches.eight(1, 8), 0), "8 64 379");
         Check.same("kind 2 complete", estimates(Benches.eight(2, 3), 0), "8 64 379");
         Check.same("kind 2", estimates(Benches.eight(2, 1), 0), "8 -1768 280");
-        Check.same("kind 2, strata without items in the sample", estimates(withQuotas(0, 1, 2, 0), 0),
+        Check.same("kind 2, strata without items in the sample", estimates(Bounds.stratified(0, 1, 2, 0), 0),
                 "8 -1991 220");
-        Check.same("kind 2, an empty sample", estimates(withQuotas(0, 0, 0, 0), 0), "8 0 0");
+        Check.same("kind 2, an empty sample", estimates(Bounds.stratified(0, 0, 0, 0), 0), "8 0 0");
         Check.same("kind 3", estimates(Benches.eight(3, 3), 0), "7 2329 511");
         Check.same("kind 3 of size 1", estimates(Benches.eight(3, 1), 0), "4 -4 396");
         Check.same("kind 3 complete", estimates(Benches.eight(3, 12), 0), "6 106 319");
@@ -125,7 +116,7 @@ public final class EstimatesTest {
         }
         Check.same("kind 3", truths(Benches.eight(3, 3), 0), "6 106 319");
         Check.same("kind 3 of size 12", truths(Benches.eight(3, 12), 0), "6 106 319");
-        Check.same("quotas are no matter", truths(withQuotas(0, 0, 0, 0), 0), "8 64 379");
+        Check.same("quotas are no matter", truths(Bounds.stratified(0, 0, 0, 0), 0), "8 64 379");
         SampleBench bench = new SampleBench();
         bench.define(0, 3, 1, 1, 0);
         Check.same("no items", truths(bench, 0), "0 0 0");
@@ -155,7 +146,7 @@ public final class EstimatesTest {
         bench.define(1, 0, 1, 1, 0);
         Check.refuses(Benches.ELEMENT, bench, "quantile of no items", () -> bench.quantile(1, 0));
         Check.refuses(Benches.ARGUMENT, bench, "a wrong quantile of no items", () -> bench.quantile(1, -1));
-        SampleBench none = withQuotas(0, 0, 0, 0);
+        SampleBench none = Bounds.stratified(0, 0, 0, 0);
         Check.refuses(Benches.ELEMENT, none, "quantile of an empty sample", () -> none.quantile(0, 500));
     }
 
@@ -180,7 +171,7 @@ public final class EstimatesTest {
         bench.define(1, 3, 1, 1, 0);
         Check.refuses(Benches.ELEMENT, bench, "resampled of no items", () -> bench.resampled(1, 1, 1));
         Check.refuses(Benches.ARGUMENT, bench, "resampled of no items, no draws", () -> bench.resampled(1, 1, 0));
-        SampleBench none = withQuotas(0, 0, 0, 0);
+        SampleBench none = Bounds.stratified(0, 0, 0, 0);
         Check.refuses(Benches.ELEMENT, none, "resampled of an empty sample", () -> none.resampled(0, 1, 1));
     }
 

@@ -328,8 +328,8 @@ final class FormulaBounds {
                 FormulaBounds::tenChanges);
         Document.says("Numbers in texts can be -0 and have zeros at their beginning.", () -> {
             Check.same("-0 of all", Benches.written(Benches.read("-0/1/-0/-0;-0,-0,-0,1,-0"), 0), "0/1/0/0;0,0,0,1,0");
-            Check.same("zeros of all", Benches.written(Benches.read("-00/00012/-0000000008/000;007,0099,-000,0099,-0999"),
-                    0), "0/12/-8/0;7,99,0,99,-999");
+            Check.same("zeros of all", Benches.written(
+                    Benches.read("-00/00012/-0000000008/000;007,0099,-000,0099,-0999"), 0), "0/12/-8/0;7,99,0,99,-999");
             Check.same("-0 is no size", readOf("0/-0/0/0"), "IllegalArgumentException");
             Check.same("-0 is no weight", readOf("0/1/0/0;1,1,1,-0,1"), "IllegalArgumentException");
             Check.same("-1 and -0 do increase no numbers", readOf("0/1/0/0;0,1,1,1,1;-0,1,1,1,1"),

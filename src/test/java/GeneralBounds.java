@@ -239,8 +239,8 @@ final class GeneralBounds {
             sampleIs("7 3 6 5 2 4 0 1", Benches.eight(1, 8));
             sampleIs("7 3 6 5 2 4 0 1", Benches.eight(1, 9));
         });
-        Document.says("Kind 1, weighted: as kind 0, but the priority is the fraction of the mix divided by the weight of "
-                + "the item.", GeneralBounds::fractions);
+        Document.says("Kind 1, weighted: as kind 0, but the priority is the fraction of the mix divided by the weight "
+                + "of the item.", GeneralBounds::fractions);
         Document.says("The sample consists, for each stratum in ascending order, of the first kept items of this "
                 + "stratum by priority, as many as its quota says, or all of them if there are fewer.", () -> {
             sampleIs("", Bounds.noItems(2));

@@ -1,10 +1,5 @@
 /** The boundary cases of the promises 12 to 19: kept items, items of samples, and what places them there. */
 final class ItemsBounds {
-    private static final String NO_SLOT = "Throws `IndexOutOfBoundsException` if there is no such slot";
-    private static final String NO_ITEM = NO_SLOT + ", or its summary does not have such an item";
-    private static final String EMPTY = "Throws `IllegalStateException` if the slot is empty";
-    private static final String NO_WHAT = "Throws `IllegalArgumentException` if what is out of range";
-
     private ItemsBounds() {
     }
 
@@ -37,8 +32,8 @@ final class ItemsBounds {
     private static void kept() {
         Document.section("Promise 12: kept");
         Document.isPlain("Returns a part of a kept item.", "- `slot`: the slot", "Returns the part.");
-        Document.says("`int kept(int slot, int i, int what) throws IndexOutOfBoundsException, IllegalArgumentException, "
-                + "IllegalStateException`", () -> {
+        Document.says("`int kept(int slot, int i, int what) throws IndexOutOfBoundsException, "
+                + "IllegalArgumentException, IllegalStateException`", () -> {
             Bounds.refused(Benches.INDEX, Bounds::rich, "no slot, no what", b -> b.kept(4, 0, 6));
             Bounds.refused(Benches.INDEX, Bounds::rich, "no item, no what", b -> b.kept(0, 8, 6));
             Bounds.refused(Benches.INDEX, Bounds::rich, "no item, no what", b -> b.kept(2, 0, -1));
@@ -65,10 +60,10 @@ final class ItemsBounds {
             Check.same("no candidates", Benches.kept(Benches.eight(3, 12), 0, 5), "3 -1 5 -1 2 4 1 0");
             Check.same("quotas of 0 and 1", Benches.kept(Bounds.stratified(0, 1, 2, 0), 0, 5), "-1 -1 1 -1 -1 0 2 -1");
         });
-        Document.says(NO_ITEM, () -> Bounds.noSuchItem((b, slot, i) -> b.kept(slot, i, 5)));
-        Document.says(NO_WHAT, () -> Bounds.outside(Benches.ARGUMENT, Bounds::rich, "what", 0, 5,
+        Document.says(Document.NO_ITEM, () -> Bounds.noSuchItem((b, slot, i) -> b.kept(slot, i, 5)));
+        Document.says(Document.NO_WHAT, () -> Bounds.outside(Benches.ARGUMENT, Bounds::rich, "what", 0, 5,
                 (b, n) -> b.kept(0, 7, n)));
-        Document.says(EMPTY, () -> {
+        Document.says(Document.EMPTY, () -> {
             for (int what = 0; what < 6; what++) {
                 int which = what;
                 Bounds.emptySlot((b, slot) -> b.kept(slot, 0, which));
@@ -98,20 +93,22 @@ final class ItemsBounds {
                 Check.same("what " + what, Benches.sampled(bench, 0, what), due[what]);
             }
         });
-        Document.says(NO_ITEM, () -> {
+        Document.says(Document.NO_ITEM, () -> {
             Bounds.noSuchSlot((b, slot) -> b.sampled(slot, 0, 0));
             Bounds.outside(Benches.INDEX, Bounds::rich, "item of the sample", 0, 2, (b, i) -> b.sampled(0, i, 0));
-            Bounds.outside(Benches.INDEX, () -> Benches.eight(0, 12), "item of eight", 0, 7, (b, i) -> b.sampled(0, i, 0));
-            Bounds.outside(Benches.INDEX, () -> Benches.eight(3, 12), "item of six", 0, 5, (b, i) -> b.sampled(0, i, 0));
+            Bounds.outside(Benches.INDEX, () -> Benches.eight(0, 12), "item of eight", 0, 7,
+                    (b, i) -> b.sampled(0, i, 0));
+            Bounds.outside(Benches.INDEX, () -> Benches.eight(3, 12), "item of six", 0, 5,
+                    (b, i) -> b.sampled(0, i, 0));
             Bounds.outside(Benches.INDEX, () -> Bounds.stratified(2, 0, 1, 0), "item of quotas", 0, 2,
                     (b, i) -> b.sampled(0, i, 0));
             Bounds.refused(Benches.INDEX, Bounds::rich, "a sample of none", b -> b.sampled(2, 0, 0));
             Bounds.refused(Benches.INDEX, () -> Bounds.stratified(0, 0, 0, 0), "an empty sample",
                     b -> b.sampled(0, 0, 0));
         });
-        Document.says(NO_WHAT, () -> Bounds.outside(Benches.ARGUMENT, Bounds::rich, "what", 0, 4,
+        Document.says(Document.NO_WHAT, () -> Bounds.outside(Benches.ARGUMENT, Bounds::rich, "what", 0, 4,
                 (b, n) -> b.sampled(0, 2, n)));
-        Document.says(EMPTY, () -> {
+        Document.says(Document.EMPTY, () -> {
             for (int what = 0; what < 5; what++) {
                 int which = what;
                 Bounds.emptySlot((b, slot) -> b.sampled(slot, 0, which));
@@ -138,8 +135,8 @@ final class ItemsBounds {
             Check.same("the first", Benches.eight(0, 1).mix(0, 0), 415870661L);
             Check.same("the last", Benches.eight(0, 1).mix(0, 7), 531079104L);
         });
-        Document.says(NO_ITEM, () -> Bounds.noSuchItem(SampleBench::mix));
-        Document.says(EMPTY, () -> Bounds.emptySlot((b, slot) -> b.mix(slot, 0)));
+        Document.says(Document.NO_ITEM, () -> Bounds.noSuchItem(SampleBench::mix));
+        Document.says(Document.EMPTY, () -> Bounds.emptySlot((b, slot) -> b.mix(slot, 0)));
     }
 
     private static void commonKey() {
@@ -162,9 +159,9 @@ final class ItemsBounds {
             Check.same("once more than a lower one", Benches.read("0/5/7/0;0,7,0,1,1;1,7,0,1,1;2,7,0,1,1;3,6,0,1,1;"
                     + "4,6,0,1,1").commonKey(0), 7);
         });
-        Document.says(NO_SLOT, () -> Bounds.noSuchSlot((b, slot) -> b.commonKey(slot)));
-        Document.says(EMPTY, () -> Bounds.emptySlot((b, slot) -> b.commonKey(slot)));
-        Document.says("Throws `NoSuchElementException` if the sample is empty", () -> {
+        Document.says(Document.NO_SLOT, () -> Bounds.noSuchSlot((b, slot) -> b.commonKey(slot)));
+        Document.says(Document.EMPTY, () -> Bounds.emptySlot((b, slot) -> b.commonKey(slot)));
+        Document.says(Document.NO_SAMPLE, () -> {
             for (int kind = 0; kind < 4; kind++) {
                 int which = kind;
                 Bounds.refused(Benches.ELEMENT, () -> Bounds.noItems(which), "no items", b -> b.commonKey(0));
@@ -185,9 +182,9 @@ final class ItemsBounds {
             Check.same("the first", Benches.eight(1, 3).reason(0, 0), 2);
             Check.same("the last", Benches.eight(1, 3).reason(0, 7), 0);
         });
-        Document.says("Returns 0 if it is in the sample; 1 if it is no candidate, as there is a kept item with the same "
-                + "key and a lower number; 2 if enough candidates, for kind 2 items of its stratum, come before it; for "
-                + "kind 2, 3 if the quota of its stratum is 0.", () -> {
+        Document.says("Returns 0 if it is in the sample; 1 if it is no candidate, as there is a kept item with the "
+                + "same key and a lower number; 2 if enough candidates, for kind 2 items of its stratum, come before "
+                + "it; for kind 2, 3 if the quota of its stratum is 0.", () -> {
             Check.same("kind 0, one is in it", row(Benches.eight(0, 1), SampleBench::reason), "2 2 2 0 2 2 2 2");
             Check.same("kind 0, one is not", row(Benches.eight(0, 7), SampleBench::reason), "0 0 0 0 2 0 0 0");
             Check.same("kind 0, all", row(Benches.eight(0, 8), SampleBench::reason), "0 0 0 0 0 0 0 0");
@@ -200,8 +197,8 @@ final class ItemsBounds {
             Check.same("kind 2, the same keys", row(sameKeys(2), SampleBench::reason), "0 2 2 0");
             Check.same("kind 3, the same keys", row(sameKeys(3), SampleBench::reason), "0 1 1 1");
         });
-        Document.says(NO_ITEM, () -> Bounds.noSuchItem(SampleBench::reason));
-        Document.says(EMPTY, () -> Bounds.emptySlot((b, slot) -> b.reason(slot, 0)));
+        Document.says(Document.NO_ITEM, () -> Bounds.noSuchItem(SampleBench::reason));
+        Document.says(Document.EMPTY, () -> Bounds.emptySlot((b, slot) -> b.reason(slot, 0)));
     }
 
     private static void needed() {
@@ -212,14 +209,14 @@ final class ItemsBounds {
             Bounds.refused(Benches.INDEX, Bounds::rich, "no slot, no item", b -> b.needed(4, 99));
             Bounds.refused(Benches.ELEMENT, () -> Benches.eight(3, 3), "no candidate", b -> b.needed(0, 1));
         });
-        Document.says("Returns the least size, for kind 2 the least quota of its stratum, with which a kept item would be "
-                + "in the sample, all else being as it is; it may be greater than 12.", ItemsBounds::leastSizes);
+        Document.says("Returns the least size, for kind 2 the least quota of its stratum, with which a kept item would "
+                + "be in the sample, all else being as it is; it may be greater than 12.", ItemsBounds::leastSizes);
         Document.says("- `i`: its index in the list", () -> {
             Check.same("the first", Benches.eight(0, 1).needed(0, 0), 2);
             Check.same("the last", Benches.eight(0, 1).needed(0, 7), 3);
         });
-        Document.says(NO_ITEM, () -> Bounds.noSuchItem(SampleBench::needed));
-        Document.says(EMPTY, () -> Bounds.emptySlot((b, slot) -> b.needed(slot, 0)));
+        Document.says(Document.NO_ITEM, () -> Bounds.noSuchItem(SampleBench::needed));
+        Document.says(Document.EMPTY, () -> Bounds.emptySlot((b, slot) -> b.needed(slot, 0)));
         Document.says("Throws `NoSuchElementException` if it is no candidate", () -> {
             Bounds.refused(Benches.ELEMENT, () -> Benches.eight(3, 12), "the second one of a key", b -> b.needed(0, 3));
             Bounds.answers(6, () -> Benches.eight(3, 12), "the first one of a key", b -> b.needed(0, 2));
@@ -277,8 +274,8 @@ final class ItemsBounds {
             Bounds.refused(Benches.INDEX, Bounds::rich, "no slot, no item", b -> b.margin(4, 99));
             Bounds.refused(Benches.ELEMENT, Bounds::rich, "not in the sample", b -> b.margin(0, 1));
         });
-        Document.says("Returns the margin of an item of the sample: the size minus its index in the sample; for kind 2, "
-                + "the quota of its stratum minus its index among the items of this stratum in the sample.", () -> {
+        Document.says("Returns the margin of an item of the sample: the size minus its index in the sample; for kind "
+                + "2, the quota of its stratum minus its index among the items of this stratum in the sample.", () -> {
             Check.same("size 1", row(Benches.eight(0, 1), SampleBench::margin), "none none none 1 none none none none");
             Check.same("all but one", row(Benches.eight(0, 7), SampleBench::margin), "6 1 4 7 none 2 3 5");
             Check.same("just all", row(Benches.eight(0, 8), SampleBench::margin), "7 2 5 8 1 3 4 6");
@@ -294,8 +291,8 @@ final class ItemsBounds {
             Check.same("the first", Benches.eight(0, 8).margin(0, 0), 7);
             Check.same("the last", Benches.eight(0, 8).margin(0, 7), 6);
         });
-        Document.says(NO_ITEM, () -> Bounds.noSuchItem(SampleBench::margin));
-        Document.says(EMPTY, () -> Bounds.emptySlot((b, slot) -> b.margin(slot, 0)));
+        Document.says(Document.NO_ITEM, () -> Bounds.noSuchItem(SampleBench::margin));
+        Document.says(Document.EMPTY, () -> Bounds.emptySlot((b, slot) -> b.margin(slot, 0)));
         Document.says("Throws `NoSuchElementException` if it is not in the sample", () -> {
             Bounds.refused(Benches.ELEMENT, () -> Benches.eight(0, 7), "the one that is not", b -> b.margin(0, 4));
             Bounds.refused(Benches.ELEMENT, () -> Benches.eight(3, 12), "no candidate", b -> b.margin(0, 1));
@@ -311,8 +308,8 @@ final class ItemsBounds {
             for (int count = 0; count < befores.length; count++) {
                 SampleBench bench = Benches.read(kind + "/3/7/0" + befores[count] + ";5,3,0,1,1;8,4,0,1,1");
                 Check.same("kind " + kind + ", " + count + " before 5", bench.margin(0, count), 3 - count);
-                Check.same("kind " + kind + ", " + count + " before 8", row(bench, SampleBench::margin).endsWith("none"),
-                        count == 2);
+                boolean isOut = row(bench, SampleBench::margin).endsWith("none");
+                Check.same("kind " + kind + ", " + count + " before 8", isOut, count == 2);
             }
         }
         SampleBench slid = Benches.read("0/2/7/0;5,1,0,1,1;8,1,0,1,1");
@@ -335,8 +332,8 @@ final class ItemsBounds {
             Bounds.refused(Benches.INDEX, Bounds::rich, "no stratum, empty", b -> b.stratum(3, -1, 0));
             Bounds.refused(Benches.ARGUMENT, Bounds::rich, "no what, empty", b -> b.stratum(3, 0, 6));
         });
-        Document.says("- `what`: 0 the number of kept items of the stratum; 1 the number of its items in the sample; 2 and "
-                + "3 the total of the values of these two; 4 and 5 the total of their weights", () -> {
+        Document.says("- `what`: 0 the number of kept items of the stratum; 1 the number of its items in the sample; 2 "
+                + "and 3 the total of the values of these two; 4 and 5 the total of their weights", () -> {
             Check.same("no items", numbers(Bounds.noItems(1), 0), "0 0 0 0 0 0");
             Check.same("no items", numbers(Bounds.noItems(2), 3), "0 0 0 0 0 0");
             Check.same("one of two", numbers(Benches.eight(0, 3), 0), "2 1 1099 100 60 10");
@@ -353,9 +350,9 @@ final class ItemsBounds {
             Bounds.noSuchSlot((b, slot) -> b.stratum(slot, 0, 0));
             Bounds.outside(Benches.INDEX, Bounds::rich, "stratum", 0, 3, (b, n) -> b.stratum(0, n, 0));
         });
-        Document.says(NO_WHAT, () -> Bounds.outside(Benches.ARGUMENT, Bounds::rich, "what", 0, 5,
+        Document.says(Document.NO_WHAT, () -> Bounds.outside(Benches.ARGUMENT, Bounds::rich, "what", 0, 5,
                 (b, n) -> b.stratum(0, 3, n)));
-        Document.says(EMPTY, () -> {
+        Document.says(Document.EMPTY, () -> {
             for (int what = 0; what < 6; what++) {
                 int which = what;
                 Bounds.emptySlot((b, slot) -> b.stratum(slot, 0, which));

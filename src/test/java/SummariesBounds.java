@@ -53,8 +53,8 @@ final class SummariesBounds {
     private static void define() {
         Document.section("Promise 2: define");
         Document.isPlain("- `slot`: the slot", "- `kind`: the kind", "- `size`: the size", "- `span`: the span");
-        Document.says("`int define(int slot, int kind, int size, int seed, int span) throws "
-                + "IndexOutOfBoundsException, IllegalArgumentException`", () -> {
+        Document.says("`int define(int slot, int kind, int size, int seed, int span) throws IndexOutOfBoundsException, "
+                + "IllegalArgumentException`", () -> {
             Bounds.refused(Benches.INDEX, Bounds::rich, "no slot, no kind", b -> b.define(4, 4, 1, 0, 0));
             Bounds.refused(Benches.INDEX, Bounds::rich, "no slot, no size", b -> b.define(-1, 0, 0, 0, 0));
             Bounds.refused(Benches.INDEX, Bounds::rich, "no slot, no span", b -> b.define(4, 0, 1, 0, 41));
@@ -91,8 +91,7 @@ final class SummariesBounds {
         });
         Document.says("Returns the number of items that the slot kept before.",
                 () -> countsBefore((b, slot) -> b.define(slot, 0, 1, 1, 0)));
-        Document.says("Throws `IndexOutOfBoundsException` if there is no such slot",
-                () -> Bounds.noSuchSlot((b, slot) -> b.define(slot, 0, 1, 1, 0)));
+        Document.says(Document.NO_SLOT, () -> Bounds.noSuchSlot((b, slot) -> b.define(slot, 0, 1, 1, 0)));
         Document.says("Throws `IllegalArgumentException` if the kind, the size or the span is out of range", () -> {
             Bounds.outside(Benches.ARGUMENT, Bounds::rich, "kind", 0, 3, (b, n) -> b.define(3, n, 1, 1, 0));
             Bounds.outside(Benches.ARGUMENT, Bounds::rich, "size", 1, 12, (b, n) -> b.define(3, 3, n, 1, 40));
@@ -124,8 +123,7 @@ final class SummariesBounds {
             }
         });
         Document.says("Returns the number of items that it kept.", () -> countsBefore((b, slot) -> b.drop(slot)));
-        Document.says("Throws `IndexOutOfBoundsException` if there is no such slot",
-                () -> Bounds.noSuchSlot((b, slot) -> b.drop(slot)));
+        Document.says(Document.NO_SLOT, () -> Bounds.noSuchSlot((b, slot) -> b.drop(slot)));
     }
 
     private static void offer() {
@@ -148,8 +146,7 @@ final class SummariesBounds {
             Bounds.answers(8, () -> Benches.eight(0, 3), "the ninth item", b -> b.offer(0, 0, 0, 1, 0));
             Bounds.answers(60, () -> Bounds.drawn(0, 3, 1, 60), "the 61st item", b -> b.offer(0, 0, 0, 1, 0));
         });
-        Document.says("Throws `IndexOutOfBoundsException` if there is no such slot",
-                () -> Bounds.noSuchSlot((b, slot) -> b.offer(slot, 0, 0, 1, 0)));
+        Document.says(Document.NO_SLOT, () -> Bounds.noSuchSlot((b, slot) -> b.offer(slot, 0, 0, 1, 0)));
         Document.says("Throws `IllegalArgumentException` if an argument is out of range", () -> {
             Bounds.outside(Benches.ARGUMENT, Bounds::rich, "key", 0, 99, (b, n) -> b.offer(1, n, 3, 99, 999));
             Bounds.outside(Benches.ARGUMENT, Bounds::rich, "stratum", 0, 3, (b, n) -> b.offer(1, 99, n, 99, -999));
@@ -220,13 +217,12 @@ final class SummariesBounds {
             Bounds.answers(40, () -> Bounds.drawn(0, 3, 40, 39), "one to 39", b -> b.offerDrawn(0, 1, 1));
             Bounds.answers(40, () -> Bounds.drawn(0, 3, 40, 39), "two to 39", b -> b.offerDrawn(0, 1, 2));
         });
-        Document.says("Throws `IndexOutOfBoundsException` if there is no such slot",
-                () -> Bounds.noSuchSlot((b, slot) -> b.offerDrawn(slot, 1, 1)));
+        Document.says(Document.NO_SLOT, () -> Bounds.noSuchSlot((b, slot) -> b.offerDrawn(slot, 1, 1)));
         Document.says("Throws `IllegalArgumentException` if the count is out of range",
                 () -> Bounds.outside(Benches.ARGUMENT, () -> Bounds.noItems(2), "count", 0, 60,
                         (b, n) -> b.offerDrawn(0, 1, n)));
-        Document.says("Throws `IllegalStateException` if the slot is empty, or its summary has the span 0 and would keep "
-                + "more than 60 items", () -> {
+        Document.says("Throws `IllegalStateException` if the slot is empty, or its summary has the span 0 and would "
+                + "keep more than 60 items", () -> {
             Bounds.emptySlot((b, slot) -> b.offerDrawn(slot, 1, 1));
             Bounds.emptySlot((b, slot) -> b.offerDrawn(slot, 1, 0));
             Bounds.refused(Benches.STATE, Bounds::rich, "53 to eight", b -> b.offerDrawn(0, 1, 53));
@@ -271,11 +267,10 @@ final class SummariesBounds {
                 + "number of items of the sample; 6: 1 if the sample is complete, otherwise 0, for kind 2 if it "
                 + "contains all kept items; 7 the number of different keys of the kept items",
                 SummariesBounds::numbersOfSummaries);
-        Document.says("Throws `IndexOutOfBoundsException` if there is no such slot",
-                () -> Bounds.noSuchSlot((b, slot) -> b.summary(slot, 0)));
-        Document.says("Throws `IllegalArgumentException` if what is out of range",
+        Document.says(Document.NO_SLOT, () -> Bounds.noSuchSlot((b, slot) -> b.summary(slot, 0)));
+        Document.says(Document.NO_WHAT,
                 () -> Bounds.outside(Benches.ARGUMENT, Bounds::rich, "what", 0, 7, (b, n) -> b.summary(0, n)));
-        Document.says("Throws `IllegalStateException` if the slot is empty", () -> {
+        Document.says(Document.EMPTY, () -> {
             for (int what = 0; what < 8; what++) {
                 int which = what;
                 Bounds.emptySlot((b, slot) -> b.summary(slot, which));
@@ -344,8 +339,7 @@ final class SummariesBounds {
         });
         Document.says("Throws `IllegalArgumentException` if the quota is out of range",
                 () -> Bounds.outside(Benches.ARGUMENT, Bounds::rich, "quota", 0, 12, (b, n) -> b.setQuota(1, 3, n)));
-        Document.says("Throws `IllegalStateException` if the slot is empty",
-                () -> Bounds.emptySlot((b, slot) -> b.setQuota(slot, 0, 1)));
+        Document.says(Document.EMPTY, () -> Bounds.emptySlot((b, slot) -> b.setQuota(slot, 0, 1)));
     }
 
     private static void allocate() {
@@ -377,11 +371,10 @@ final class SummariesBounds {
             Bounds.answers(12, () -> Benches.read("2/3/7/0;0,1,0,1,1"), "all", b -> b.allocate(0, 12, true));
             Bounds.answers(0, () -> Benches.read("2/3/7/0;0,1,3,1,1"), "none", b -> b.allocate(0, 12, true));
         });
-        Document.says("Throws `IndexOutOfBoundsException` if there is no such slot",
-                () -> Bounds.noSuchSlot((b, slot) -> b.allocate(slot, 1, true)));
+        Document.says(Document.NO_SLOT, () -> Bounds.noSuchSlot((b, slot) -> b.allocate(slot, 1, true)));
         Document.says("Throws `IllegalArgumentException` if the total is out of range",
                 () -> Bounds.outside(Benches.ARGUMENT, Bounds::rich, "total", 0, 12, (b, n) -> b.allocate(0, n, true)));
-        Document.says("Throws `IllegalStateException` if the slot is empty", () -> {
+        Document.says(Document.EMPTY, () -> {
             Bounds.emptySlot((b, slot) -> b.allocate(slot, 1, true));
             Bounds.emptySlot((b, slot) -> b.allocate(slot, 0, false));
         });
@@ -438,7 +431,8 @@ final class SummariesBounds {
     private static void quota() {
         Document.section("Promise 9: quota");
         Document.isPlain("- `slot`: the slot", "- `stratum`: the stratum", "Returns the quota.");
-        Document.says("`int quota(int slot, int stratum) throws IndexOutOfBoundsException, IllegalStateException`", () -> {
+        Document.says("`int quota(int slot, int stratum) throws IndexOutOfBoundsException, "
+                + "IllegalStateException`", () -> {
             Bounds.refused(Benches.INDEX, Bounds::rich, "no stratum, empty", b -> b.quota(3, 4));
             Bounds.refused(Benches.INDEX, Bounds::rich, "no stratum, empty", b -> b.quota(3, -1));
         });
@@ -452,8 +446,7 @@ final class SummariesBounds {
             Bounds.noSuchSlot((b, slot) -> b.quota(slot, 0));
             Bounds.outside(Benches.INDEX, Bounds::rich, "stratum", 0, 3, (b, n) -> b.quota(0, n));
         });
-        Document.says("Throws `IllegalStateException` if the slot is empty",
-                () -> Bounds.emptySlot((b, slot) -> b.quota(slot, 3)));
+        Document.says(Document.EMPTY, () -> Bounds.emptySlot((b, slot) -> b.quota(slot, 3)));
     }
 
     /** Two summaries of the kind 0, the size 3 and the seed 7 with these spans and counts of drawn items. */
@@ -473,9 +466,9 @@ final class SummariesBounds {
             Bounds.refused(Benches.INDEX, Bounds::rich, "from none into an empty slot", b -> b.merge(-1, 3));
             Bounds.refused(Benches.STATE, Bounds::rich, "what differs, and is empty", b -> b.merge(0, 3));
         });
-        Document.says("Merges a summary into another one: the kept items of the first one that the other does not keep, "
-                + "by their numbers, are put into its list in ascending order of numbers; then, if its span is not 0, "
-                + "items are removed from the beginning until the list is as long as the span.",
+        Document.says("Merges a summary into another one: the kept items of the first one that the other does not "
+                + "keep, by their numbers, are put into its list in ascending order of numbers; then, if its span is "
+                + "not 0, items are removed from the beginning until the list is as long as the span.",
                 SummariesBounds::mergedLists);
         Document.says("The first one stays.", () -> {
             SampleBench bench = pair(5, 7, 0, 3);
@@ -495,11 +488,11 @@ final class SummariesBounds {
             Bounds.answers(40, () -> pair(0, 60, 40, 40), "60 into a full span", b -> b.merge(0, 1));
             Bounds.answers(39, () -> pair(0, 19, 40, 20), "19 into 20 of a span", b -> b.merge(0, 1));
         });
-        Document.says("Throws `IndexOutOfBoundsException` if there is no such slot", () -> {
+        Document.says(Document.NO_SLOT, () -> {
             Bounds.noSuchSlot((b, slot) -> b.merge(slot, 0));
             Bounds.noSuchSlot((b, slot) -> b.merge(0, slot));
         });
-        Document.says("Throws `IllegalStateException` if one of the slots is empty", () -> {
+        Document.says(Document.ONE_EMPTY, () -> {
             Bounds.emptySlot((b, slot) -> b.merge(slot, slot));
             Bounds.refused(Benches.STATE, Bounds::rich, "from an empty slot", b -> b.merge(3, 2));
             Bounds.refused(Benches.STATE, Bounds::rich, "into an empty slot", b -> b.merge(2, 3));
@@ -512,8 +505,9 @@ final class SummariesBounds {
     private static void mergedLists() {
         String low = "0/3/7/0;1,1,1,1,1;4,1,1,1,1;5,1,1,1,1";
         String[][] due = {
-            {"0/3/7/0;0,2,2,2,2", "0 1 4 5"}, {"0/3/7/0;6,2,2,2,2", "1 4 5 6"}, {"0/3/7/0;2,2,2,2,2;3,2,2,2,2", "1 2 3 4 5"},
-            {"0/3/7/0;4,2,2,2,2", "1 4 5"}, {"0/3/7/0", "1 4 5"}, {"0/3/7/40;0,2,2,2,2;1,2,2,2,2;9,2,2,2,2", "0 1 4 5 9"},
+            {"0/3/7/0;0,2,2,2,2", "0 1 4 5"}, {"0/3/7/0;6,2,2,2,2", "1 4 5 6"}, {"0/3/7/0;4,2,2,2,2", "1 4 5"},
+            {"0/3/7/0;2,2,2,2,2;3,2,2,2,2", "1 2 3 4 5"}, {"0/3/7/0", "1 4 5"},
+            {"0/3/7/40;0,2,2,2,2;1,2,2,2,2;9,2,2,2,2", "0 1 4 5 9"},
         };
         for (String[] d : due) {
             SampleBench bench = Benches.read(low);
@@ -605,7 +599,7 @@ final class SummariesBounds {
             }
             Bounds.answers(2, Bounds::rich, "a span of 2 in place of eight", b -> b.copy(1, 0));
         });
-        Document.says("Throws `IndexOutOfBoundsException` if there is no such slot", () -> {
+        Document.says(Document.NO_SLOT, () -> {
             Bounds.noSuchSlot((b, slot) -> b.copy(slot, 0));
             Bounds.noSuchSlot((b, slot) -> b.copy(0, slot));
         });

@@ -1,8 +1,5 @@
 /** The boundary cases of the promises 27 to 33: texts, taking changes back, saving and restoring. */
 final class TextsBounds {
-    private static final String NO_SLOT = "Throws `IndexOutOfBoundsException` if there is no such slot";
-    private static final String EMPTY = "Throws `IllegalStateException` if the slot is empty";
-
     private TextsBounds() {
     }
 
@@ -79,14 +76,16 @@ final class TextsBounds {
         Document.says("`int read(int slot) throws IndexOutOfBoundsException, IllegalArgumentException, "
                 + "IllegalStateException`", () -> {
             Bounds.answers("IndexOutOfBoundsException", () -> Bounds.rich("x"), "no slot, an error", b -> b.read(4));
-            Bounds.answers("IndexOutOfBoundsException", () -> Bounds.rich("4/1/1/0"), "no slot, no kind", b -> b.read(-1));
+            Bounds.answers("IndexOutOfBoundsException", () -> Bounds.rich("4/1/1/0"), "no slot, no kind",
+                    b -> b.read(-1));
             Bounds.answers("IndexOutOfBoundsException", () -> Bounds.rich("0/1/1/1;1,1,1,1,1;2,1,1,1,1"),
                     "no slot, no room", b -> b.read(4));
             readRefused(Benches.ARGUMENT, "0/1/1/1;1,1,1,1,1;2,1,1,1,1000");
             readRefused(Benches.ARGUMENT, "4/1/1/1;1,1,1,1,1;2,1,1,1,1");
             readRefused(Benches.ARGUMENT, "0/1/1/1;2,1,1,1,1;2,1,1,1,1");
         });
-        Document.says("Parses the input buffer as a summary, which is put into a slot, in place of what is there.", () -> {
+        Document.says("Parses the input buffer as a summary, which is put into a slot, in place of what is there.",
+                () -> {
             for (int slot = 0; slot < 4; slot++) {
                 SampleBench bench = Bounds.rich("1/12/-9/40;0,0,0,1,-999;999999,99,3,99,999");
                 int at = slot;
@@ -107,9 +106,17 @@ final class TextsBounds {
                 bench.read(3);
                 Check.answers(d[1], "the number after " + d[0], () -> bench.offer(0, 1, 1, 1, 1));
             }
+            SampleBench past = Bounds.rich("0/1/0/0;999999,1,1,1,1");
+            past.read(3);
+            past.offer(3, 1, 1, 1, 1);
+            String text = Benches.written(past, 3);
+            Check.same("a number past the range of texts", text, "0/1/0/0;999999,1,1,1,1;1000000,1,1,1,1");
+            Check.feed(past, text);
+            Check.answers("IllegalArgumentException", "read of such a number", () -> past.read(0));
+            Check.answers(1000001, "the number after it", () -> past.offer(3, 1, 1, 1, 1));
         });
-        Document.says("The buffer is empty afterwards, also after an error or an exception, but not if there is no such "
-                + "slot.", () -> {
+        Document.says("The buffer is empty afterwards, also after an error or an exception, but not if there is no "
+                + "such slot.", () -> {
             bufferAfter(1, "0/1/0/0", 0);
             bufferAfter(1, "0/1/0/", 0);
             bufferAfter(1, "", 0);
@@ -141,12 +148,13 @@ final class TextsBounds {
             reads(-220, items(0, 10) + ";9,1,1,1,1;1,");
             reads(-219, items(0, 10) + ";9,1,1,1,1;1;");
         });
-        Document.says(NO_SLOT, () -> Bounds.noSuchSlot((b, slot) -> b.read(slot)));
+        Document.says(Document.NO_SLOT, () -> Bounds.noSuchSlot((b, slot) -> b.read(slot)));
         Document.says("Throws `IllegalArgumentException` if the text is correct, and a number is out of range, for the "
-                + "seed that of ints and for a number of an item 0 to 999999, or the numbers of the items do not increase",
+                + "seed that of ints and for a number of an item 0 to 999999, or the numbers of the items do not "
+                + "increase",
                 TextsBounds::rangesOfTexts);
-        Document.says("Throws `IllegalStateException` if there are more than 60 items, or more than the span if it is not "
-                + "0", () -> {
+        Document.says("Throws `IllegalStateException` if there are more than 60 items, or more than the span if it is "
+                + "not 0", () -> {
             // A buffer of 120 characters has no room for more than 11 items, so that 60 are out of reach.
             reads(11, elevenItems(0));
             reads(11, elevenItems(40));
@@ -188,7 +196,8 @@ final class TextsBounds {
         String[] items = {"-1,1,1,1,1", "1000000,1,1,1,1", "4294967297,1,1,1,1", "1,-1,1,1,1", "1,100,1,1,1",
             "1,1,-1,1,1", "1,1,4,1,1", "1,1,1,0,1", "1,1,1,100,1", "1,1,1,-1,1", "1,1,1,1,-1000", "1,1,1,1,1000",
             "1,4294967297,1,1,1", "1,1,1,4294967297,1", "1,1,1,1,-4294967295", "1,1,1,1,1;1,1,1,1,1",
-            "2,1,1,1,1;1,1,1,1,1", "0,1,1,1,1;0,1,1,1,1", "1,1,1,1,1;3,1,1,1,1;2,1,1,1,1", "1,1,1,1,1;2,1,1,1,1;2,1,1,1,1",
+            "2,1,1,1,1;1,1,1,1,1", "0,1,1,1,1;0,1,1,1,1", "1,1,1,1,1;3,1,1,1,1;2,1,1,1,1",
+            "1,1,1,1,1;2,1,1,1,1;2,1,1,1,1",
             "1,1,1,1,1;2,100,1,1,1", "1,1,1,1,1;1000000,1,1,1,1"};
         for (String item : items) {
             readRefused(Benches.ARGUMENT, "0/1/0/0;" + item);
@@ -235,13 +244,14 @@ final class TextsBounds {
             Check.same("its end", "" + bench.text(1274) + bench.text(1275) + bench.text(1276), "999");
             Check.answers("IndexOutOfBoundsException", "after its end", () -> bench.text(1277));
         });
-        Document.says(NO_SLOT, () -> Bounds.noSuchSlot((b, slot) -> b.write(slot)));
-        Document.says(EMPTY, () -> Bounds.emptySlot((b, slot) -> b.write(slot)));
+        Document.says(Document.NO_SLOT, () -> Bounds.noSuchSlot((b, slot) -> b.write(slot)));
+        Document.says(Document.EMPTY, () -> Bounds.emptySlot((b, slot) -> b.write(slot)));
     }
 
     /** Sixty items with the greatest parts, of which the first one has this number. */
     private static SampleBench longest(int number) {
-        SampleBench bench = Benches.read((number == 0 ? "3/12/-7/0;" : "3/12/-2147483648/0;") + number + ",99,3,99,-999");
+        String head = number == 0 ? "3/12/-7/0;" : "3/12/-2147483648/0;";
+        SampleBench bench = Benches.read(head + number + ",99,3,99,-999");
         for (int i = 1; i < 60; i++) {
             bench.offer(0, 99, 3, 99, -999);
         }
@@ -405,7 +415,8 @@ final class TextsBounds {
                 return bench;
             }, "saving the same again", SampleBench::save);
         });
-        Document.says("Saves all slots and the number that the next item gets, in place of what was saved before.", () -> {
+        Document.says("Saves all slots and the number that the next item gets, in place of what was saved before.",
+                () -> {
             SampleBench bench = Bounds.rich();
             bench.save();
             for (int slot = 0; slot < 4; slot++) {
