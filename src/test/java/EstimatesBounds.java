@@ -87,8 +87,7 @@ final class EstimatesBounds {
             Bounds.refused(Benches.ARGUMENT, Bounds::rich, "no what, empty", b -> b.estimate(3, 3));
         });
         Document.says("- `what`: 0 the estimated count, 1 the estimated total of values, 2 the estimated total of "
-                + "weights",
-                () -> {
+                + "weights", () -> {
             Bounds.answers(6L, () -> Benches.eight(3, 5), "0", b -> b.estimate(0, 0));
             Bounds.answers(119L, () -> Benches.eight(3, 5), "1", b -> b.estimate(0, 1));
             Bounds.answers(347L, () -> Benches.eight(3, 5), "2", b -> b.estimate(0, 2));
@@ -292,8 +291,7 @@ final class EstimatesBounds {
         Document.says("Returns the distance of the samples of two summaries: the greatest absolute difference, over "
                 + "all values x of both samples, between the shares of the values of both samples that are at most x; "
                 + "a share is a number of values, as a float, divided by the number of items of the sample, as a "
-                + "float.",
-                EstimatesBounds::distances);
+                + "float.", EstimatesBounds::distances);
         Document.says(Document.NO_SLOT, () -> {
             Bounds.noSuchSlot((b, slot) -> b.distance(slot, 0));
             Bounds.noSuchSlot((b, slot) -> b.distance(0, slot));

@@ -151,8 +151,7 @@ final class TextsBounds {
         Document.says(Document.NO_SLOT, () -> Bounds.noSuchSlot((b, slot) -> b.read(slot)));
         Document.says("Throws `IllegalArgumentException` if the text is correct, and a number is out of range, for the "
                 + "seed that of ints and for a number of an item 0 to 999999, or the numbers of the items do not "
-                + "increase",
-                TextsBounds::rangesOfTexts);
+                + "increase", TextsBounds::rangesOfTexts);
         Document.says("Throws `IllegalStateException` if there are more than 60 items, or more than the span if it is "
                 + "not 0", () -> {
             // A buffer of 120 characters has no room for more than 11 items, so that 60 are out of reach.
@@ -370,6 +369,16 @@ final class TextsBounds {
         };
     }
 
+    private static Bounds.Call[] questions() {
+        return new Bounds.Call[] {
+            b -> b.summary(0, 5), b -> b.quota(0, 1), b -> b.kept(0, 7, 5), b -> b.sampled(0, 2, 4), b -> b.mix(0, 0),
+            b -> b.commonKey(0), b -> b.reason(0, 1), b -> b.needed(0, 1), b -> b.margin(0, 0),
+            b -> b.stratum(0, 3, 3), b -> b.estimateKeys(0, 0, 9, true), b -> b.estimate(0, 1), b -> b.truth(0, 2),
+            b -> b.quantile(0, 500), b -> b.resampled(0, 7, 1000), b -> b.distance(0, 1), b -> b.common(1, 0),
+            b -> b.write(1), b -> b.text(0),
+        };
+    }
+
     private static void takenBack() {
         for (Bounds.Call change : changes()) {
             SampleBench bench = withText();
@@ -378,6 +387,9 @@ final class TextsBounds {
             Check.same("the slots before it", Check.seen(bench), Check.seen(withText()));
             Check.answers(8, "undo of the define before it", bench::undo);
             Check.answers("IllegalStateException", "slot 2 then", () -> bench.summary(2, 0));
+        }
+        for (Bounds.Call question : questions()) {
+            Bounds.leaves(TextsBounds::withText, "a question, which is no change", question);
         }
         SampleBench merged = Bounds.drawn(0, 3, 0, 5);
         merged.define(1, 0, 3, 7, 2);
